@@ -223,7 +223,7 @@ public final class BundleHall {
             throws IllegalArgumentException, NoSuchElementException,
             UnsupportedOperationException {
         checkBundle(bundle);
-        checkRange(service, 0, Integer.MAX_VALUE);
+        checkService(service);
         present(bundle);
         int row = services.rowOf(service);
         if (row == NO_ROW || services.rows[row].got[bundle] == 0) {
@@ -237,7 +237,7 @@ public final class BundleHall {
             throws IllegalArgumentException, NoSuchElementException,
             UnsupportedOperationException {
         checkBundle(bundle);
-        checkRange(service, 0, Integer.MAX_VALUE);
+        checkService(service);
         present(bundle);
         int row = services.rowOf(service);
         if (row == NO_ROW || services.rows[row].owner != bundle) {
@@ -310,6 +310,12 @@ public final class BundleHall {
 
     private static void checkBundle(int bundle) {
         checkRange(bundle, 0, BUNDLES - 1);
+    }
+
+    private static void checkService(int service) {
+        if (service < 0) {
+            throw new IllegalArgumentException("the service number is below 0");
+        }
     }
 
     private static void checkRank(double rank) {
@@ -596,7 +602,6 @@ public final class BundleHall {
             name = itsName;
             level = itsLevel;
             activator = itsActivator;
-            wanted = false;
             beginNewLife();
         }
 

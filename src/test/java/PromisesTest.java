@@ -566,6 +566,33 @@ public final class PromisesTest {
             about 4 0 -> 3
             refresh -> 0
             """);
+        SCRIPT.run("promise 11, the least and the greatest number", """
+            install 3 3 1 0 -> 1
+            export 3 0 0 -> 1
+            install 0 0 1 2 -> 2
+            need 0 0 0 9 -> 1
+            install 7 1 1 2 -> 3
+            need 7 0 0 9 -> 1
+            start 0 -> 1
+            start 7 -> 1
+            event -> 300
+            event -> 100
+            event -> 301
+            event -> 107
+            update 3 -> 2
+            export 3 8 0 -> 1
+            refresh -> 2
+            event -> 401
+            event -> 207
+            event -> 400
+            event -> 200
+            event -> 302
+            event -> 100
+            event -> 303
+            event -> 107
+            event -> ISE
+            about 0 5 -> 3
+            """);
         SCRIPT.run("promise 11, a long chain with falling numbers", """
             install 7 0 1 0 -> 1
             install 6 1 1 0 -> 2
