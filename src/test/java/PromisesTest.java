@@ -743,6 +743,11 @@ public final class PromisesTest {
             register 0 1 0.0 -> UOE
             unregister 1 20 -> 0
             register 0 1 0.0 -> 21
+            # one without SERVICES stops while 20 are there
+            get 1 1 -> 19
+            stop 1 -> 0
+            giveBack 1 19 -> UOE
+            giveBack 0 19 -> 0
             stop 0 -> 20
             count 1 -> 0
             """);
