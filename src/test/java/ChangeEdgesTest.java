@@ -16,6 +16,7 @@ public final class ChangeEdgesTest {
         updateInEachState();
         updateKeepsWhatStays();
         updateAnswersWiresOfOthers();
+        wiresToPortsOfTwoLives();
         refreshWithNothingOld();
         refreshFindsOldPorts();
         refreshFollowsWires();
@@ -547,6 +548,29 @@ public final class ChangeEdgesTest {
             about 4 7 -> 107
             update 7 -> 15
             uninstall 7 -> 15
+            """);
+    }
+
+    private static void wiresToPortsOfTwoLives() {
+        String two = """
+            install 0 0 1 0 -> 1
+            export 0 0 0 -> 1
+            install 1 1 1 0 -> 2
+            need 1 0 0 9 -> 1
+            resolve 1 -> 2
+            update 0 -> 1
+            export 0 0 0 -> 1
+            install 2 2 1 0 -> 3
+            need 2 0 0 9 -> 1
+            resolve 2 -> 2
+            about 1 5 -> 100
+            about 2 5 -> 0
+            """;
+        SCRIPT.run("promise 9: WIRES to PORTS of before and of now", two + "uninstall 0 -> 2\n");
+        SCRIPT.run("promise 10: WIRES to PORTS of before and of now", two + """
+            update 0 -> 2
+            about 1 5 -> 100
+            about 2 5 -> 100
             """);
     }
 

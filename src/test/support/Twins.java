@@ -37,6 +37,11 @@ final class Twins {
         bestAndNext();
         stops();
         starts();
+        // Where all places were taken, only now a new SERVICE tells the next number.
+        bestAndNext();
+        events();
+        same("level 1");
+        events();
         wires();
         if (calls > MOST_CALLS) {
             script.due(name + ": calls of one object", "" + calls, "at most " + MOST_CALLS);
@@ -120,8 +125,6 @@ final class Twins {
                 same("about " + bundle + " " + what);
             }
         }
-        events();
-        same("level 1");
         events();
     }
 
