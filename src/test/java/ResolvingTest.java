@@ -24,7 +24,7 @@ public final class ResolvingTest {
     }
 
     private static void orderOfCandidates() {
-        SCRIPT.run("order of candidates", """
+        SCRIPT.run("promise 5, order of candidates", """
             install 0 0 1 0 -> 1
             install 1 1 1 0 -> 2
             install 2 2 1 0 -> 3
@@ -62,7 +62,7 @@ public final class ResolvingTest {
     }
 
     private static void versionsInRange() {
-        SCRIPT.run("versions in range", """
+        SCRIPT.run("promise 5, versions in range", """
             install 0 0 1 0 -> 1
             install 1 1 1 0 -> 2
             export 0 40 0 -> 1
@@ -82,7 +82,7 @@ public final class ResolvingTest {
     }
 
     private static void names() {
-        SCRIPT.run("a NAME once among RESOLVED and TAKEN IN ones", """
+        SCRIPT.run("promise 5, a NAME once among RESOLVED and TAKEN IN ones", """
             install 0 0 1 0 -> 1
             install 1 0 1 0 -> 2
             install 2 1 1 0 -> 3
@@ -103,7 +103,7 @@ public final class ResolvingTest {
             resolve 0 -> 1
             about 0 5 -> 0
             """);
-        SCRIPT.run("a NAME that is TAKEN IN by a choice", """
+        SCRIPT.run("promise 5, a NAME that is TAKEN IN by a choice", """
             install 0 0 1 0 -> 1
             install 1 1 1 0 -> 2
             install 2 1 1 0 -> 3
@@ -122,7 +122,7 @@ public final class ResolvingTest {
     }
 
     private static void tasksComeBehind() {
-        SCRIPT.run("tasks of one that is taken in come behind", """
+        SCRIPT.run("promise 5, tasks of one that is taken in come behind", """
             install 0 0 1 0 -> 1
             install 1 1 1 0 -> 2
             install 2 2 1 0 -> 3
@@ -144,7 +144,7 @@ public final class ResolvingTest {
     }
 
     private static void clashBelow() {
-        SCRIPT.run("a clash that turns a choice", """
+        SCRIPT.run("promise 5, a clash that turns a choice", """
             install 0 0 1 0 -> 1
             install 1 1 1 0 -> 2
             install 2 2 1 0 -> 3
@@ -162,7 +162,7 @@ public final class ResolvingTest {
             about 3 5 -> 1
             about 2 0 -> 1
             """);
-        SCRIPT.run("without USES there is none", """
+        SCRIPT.run("promise 5, without USES there is none", """
             install 0 0 1 0 -> 1
             install 1 1 1 0 -> 2
             install 2 2 1 0 -> 3
@@ -181,7 +181,7 @@ public final class ResolvingTest {
     }
 
     private static void clashWithOwnExport() {
-        SCRIPT.run("the own EXPORT is the SOURCE before the IMPORT", """
+        SCRIPT.run("promise 5, the own EXPORT is the SOURCE before the IMPORT", """
             install 0 0 1 0 -> 1
             install 1 1 1 0 -> 2
             export 0 0 0 -> 1
@@ -195,7 +195,7 @@ public final class ResolvingTest {
             resolve 0 -> 2
             about 0 5 -> 1
             """);
-        SCRIPT.run("no clash with itself", """
+        SCRIPT.run("promise 5, no clash with itself", """
             install 0 0 1 0 -> 1
             export 0 0 255 -> 1
             export 0 1 255 -> 2
@@ -207,7 +207,7 @@ public final class ResolvingTest {
     }
 
     private static void clashNeedsTwoSources() {
-        SCRIPT.run("no clash where one has no SOURCE", """
+        SCRIPT.run("promise 5, no clash where one has no SOURCE", """
             install 0 0 1 0 -> 1
             install 1 1 1 0 -> 2
             install 2 2 1 0 -> 3
@@ -220,7 +220,7 @@ public final class ResolvingTest {
     }
 
     private static void clashWithPortsThere() {
-        SCRIPT.run("a RESOLVED one's WIRES are SOURCES", """
+        SCRIPT.run("promise 5, a RESOLVED one's WIRES are SOURCES", """
             install 0 0 1 0 -> 1
             install 1 1 1 0 -> 2
             install 2 2 1 0 -> 3
@@ -241,7 +241,7 @@ public final class ResolvingTest {
     }
 
     private static void clashWithOldPort() {
-        SCRIPT.run("an OLD PORT is another SOURCE than the EXPORT now", """
+        SCRIPT.run("promise 5, an OLD PORT is another SOURCE than the EXPORT now", """
             install 0 0 1 0 -> 1
             export 0 0 0 -> 1
             install 1 1 1 0 -> 2
@@ -264,7 +264,7 @@ public final class ResolvingTest {
     }
 
     private static void cycle() {
-        SCRIPT.run("two that need one another", """
+        SCRIPT.run("promise 5, two that need one another", """
             install 0 0 1 0 -> 1
             install 1 1 1 0 -> 2
             export 0 0 2 -> 1
@@ -282,7 +282,7 @@ public final class ResolvingTest {
     }
 
     private static void undoing() {
-        SCRIPT.run("what failed leaves nothing behind", """
+        SCRIPT.run("promise 5, what failed leaves nothing behind", """
             install 0 0 1 0 -> 1
             install 1 1 1 0 -> 2
             export 1 0 0 -> 1
@@ -301,7 +301,7 @@ public final class ResolvingTest {
     }
 
     private static void optionals() {
-        SCRIPT.run("optional IMPORTS", """
+        SCRIPT.run("promise 5, optional IMPORTS", """
             install 0 0 1 0 -> 1
             install 1 1 1 0 -> 2
             install 2 2 1 0 -> 3
@@ -332,7 +332,7 @@ public final class ResolvingTest {
             resolve 5 -> 1
             about 4 5 -> -1
             """);
-        SCRIPT.run("optional IMPORTS from those that were TAKEN IN, and from itself", """
+        SCRIPT.run("promise 5, optional IMPORTS from those that were TAKEN IN, and from itself", """
             install 0 0 1 0 -> 1
             install 1 1 1 0 -> 2
             export 0 0 0 -> 1
@@ -352,7 +352,7 @@ public final class ResolvingTest {
     }
 
     private static void optionalsAndClash() {
-        SCRIPT.run("an optional IMPORT passes over a clash", """
+        SCRIPT.run("promise 5, an optional IMPORT passes over a clash", """
             install 0 0 1 0 -> 1
             install 1 1 1 0 -> 2
             install 2 2 1 0 -> 3
@@ -385,7 +385,7 @@ public final class ResolvingTest {
     }
 
     private static void optionalOfAnotherClashes() {
-        SCRIPT.run("the optional IMPORT of an exporter can clash for its importer", """
+        SCRIPT.run("promise 5, the optional IMPORT of an exporter can clash for its importer", """
             install 0 0 1 0 -> 1
             install 1 1 1 0 -> 2
             install 2 2 1 0 -> 3
@@ -404,7 +404,7 @@ public final class ResolvingTest {
             # 2 would come first by its VERSION
             about 3 5 -> 1
             """);
-        SCRIPT.run("of two that are TAKEN IN the lesser number is wired first", """
+        SCRIPT.run("promise 5, of two that are TAKEN IN the lesser number is wired first", """
             install 0 0 1 0 -> 1
             install 1 1 1 0 -> 2
             install 2 2 1 0 -> 3
@@ -432,7 +432,7 @@ public final class ResolvingTest {
             """;
 
     private static void threeHundredTries() {
-        SCRIPT.run("300 tries, and solved", FIVE + """
+        SCRIPT.run("promise 5, 300 tries, and solved", FIVE + """
             export 0 2 0 -> 1
             need 0 0 0 9 -> 1
             need 0 1 0 9 -> 2
@@ -457,7 +457,7 @@ public final class ResolvingTest {
             count 4 -> 300
             count 5 -> 4
             """);
-        SCRIPT.run("300 tries, and none is left", FIVE + """
+        SCRIPT.run("promise 5, 300 tries, and none is left", FIVE + """
             export 0 2 0 -> 1
             need 0 2 0 9 -> 1
             need 0 1 0 9 -> 2
@@ -504,7 +504,7 @@ public final class ResolvingTest {
             """;
 
     private static void tooHard() {
-        SCRIPT.run("too hard", HARD + """
+        SCRIPT.run("promise 5, too hard", HARD + """
             resolve 0 -> AE
             count 4 -> 301
             count 5 -> 0
@@ -531,7 +531,7 @@ public final class ResolvingTest {
     }
 
     private static void tooHardIsPassedOver() {
-        SCRIPT.run("too hard, passed over by level", HARD.replace("install 0 0 1 0", "install 0 0 2 0") + """
+        SCRIPT.run("promise 8, too hard, passed over", HARD.replace("install 0 0 1 0", "install 0 0 2 0") + """
             start 0 -> 0
             install 5 5 2 0 -> 6
             start 5 -> 0
